@@ -158,6 +158,13 @@ final class EditPromisesTest {
         Check.due("moves up", Calls.row(x, 0), "###.....");
         Check.due("the last one", x.removeLine(0), 0);
         Check.index("no lines", () -> x.removeLine(0));
+        DotRuns full = new DotRuns();
+        for (int line = 0; line < 20; line++) {
+            full.addLine(0, line % 17);
+        }
+        Check.due("one of twenty", full.removeLine(4), 19);
+        Check.due("the last one", full.line(18, 10), 2);
+        Check.due("one more can come", full.addLine(1, 2), 19);
     }
 
     private static void invert() {

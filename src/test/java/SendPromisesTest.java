@@ -6,6 +6,7 @@ final class SendPromisesTest {
 
     public static void main(String[] args) {
         nothingLost();
+        chosenMarks();
         lostAndFilledAsAbove();
         lostAndFilledWhite();
         readWrong();
@@ -60,6 +61,22 @@ final class SendPromisesTest {
         x.set(0, 2);
         sent(x, 322);
         sent(new DotRuns(), 0, 0, 0, 0, 0, 0, 0, 0, 0, 0);
+    }
+
+    /** The line 1 costs 17 bits by the line above and 8 alone, the line 2 is as cheap as that or cheaper. */
+    private static void chosenMarks() {
+        DotRuns x = Calls.loaded(PagePromisesTest.TEETH + "loss 2 1; set 3 1;");
+        sent(x, (8 + 36) * 2 + (8 + 17) * 2 + (8 + 1) * 2 + 16, 6, 1);
+        x.set(1, 1);
+        sent(x, 8 + 36 + (8 + 8) * 2 + (8 + 1) * 2 + 16, 5, 1);
+        Check.due("two marks of three lines", x.byAbove(), 1.0f / 3.0f);
+        DotRuns same = Calls.loaded("wide 8; alone 8; line ..##....; loss 1 1; set 3 1; set 1 1;");
+        sentLine(same, 0, 0, 2, 32, 0, 0);
+        DotRuns first = Calls.loaded("wide 8; line ..##....; line ..##....; loss 0 1; set 2 1;");
+        Check.due("harm of the line 0 alone", first.harm(1, 2), 1);
+        first.invert(1);
+        first.set(0, 1);
+        Check.due("the line 0 is the last wrong one", first.harm(0, 2), 0);
     }
 
     private static void lostAndFilledAsAbove() {

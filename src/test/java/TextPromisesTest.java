@@ -181,6 +181,8 @@ final class TextPromisesTest {
         bad("line 5;", 1, 5);
         bad("line", 1, 4);
         bad("linex ................;", 1, 0);
+        bad("linez ................;", 1, 0);
+        bad("aline ................;", 1, 0);
         bad("LINE ................;", 1, 0);
         bad("\tline ................;", 1, 0);
         bad("line\r................;", 1, 4);
