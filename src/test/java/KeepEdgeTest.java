@@ -68,6 +68,10 @@ final class KeepEdgeTest {
         written(x, 1, "alone 9 10 21");
         written(x, 2, "alone 10 9 21");
         written(x, 4, "alone 0 40");
+        for (int black = 1; black < 40; black++) {
+            String code = black + " " + (40 - black);
+            written(Calls.loaded("wide 40;alone 0 " + code + ";"), 0, "alone 0 " + code);
+        }
         for (int by = -3; by <= 3; by++) {
             written(Calls.loaded("alone 8 8;alone " + (8 + by) + " " + (8 - by) + ";"), 1, "above v" + by + " v0");
         }

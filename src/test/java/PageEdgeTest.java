@@ -9,6 +9,7 @@ final class PageEdgeTest {
         lineOfAFullPage();
         latestMarkUpToThisLine();
         numbersBehindTheLastOne();
+        numbersOfEachModeAre0IfItHasNone();
         negativeIndexAheadOfTheNumber();
         longestWithoutOne();
         longestAtBothEnds();
@@ -124,6 +125,20 @@ final class PageEdgeTest {
         Check.due("the one mode", white.mode(0, 0, 3), 8);
         for (int what = 0; what <= 3; what++) {
             Check.due("no other one", white.mode(0, 1, what), -9);
+        }
+    }
+
+    /** "1: ... (0 for p)", "2: the second one of an h (0 for others)": p, then v-3 and v0, and an h 8 0. */
+    private static void numbersOfEachModeAre0IfItHasNone() {
+        DotRuns x = Calls.loaded("wide 8;line ##......;line .....###;line ########;line ........;");
+        int[][][] want = {{}, {{0, 0, 0, 2}, {1, -3, 0, 5}, {1, 0, 0, 8}}, {}, {{2, 8, 0, 8}}};
+        for (int line = 0; line < want.length; line++) {
+            for (int index = 0; index < want[line].length; index++) {
+                for (int what = 0; what <= 3; what++) {
+                    Check.due("mode " + line + " " + index + " " + what, x.mode(line, index, what),
+                        want[line][index][what]);
+                }
+            }
         }
     }
 

@@ -20,6 +20,8 @@ final class SendEdgeTest {
         stateOfTheLatestSending();
         notReadIsRightByChance();
         rightBelowAWrongLine();
+        eachLineIsReadByItsOwnCode();
+        notAloneIfAsDear();
         sendingChangesNothing();
         harmIsOfOneLossAlone();
         harmOfTheFirstAndTheLastLine();
@@ -215,6 +217,21 @@ final class SendEdgeTest {
         sent(x, 46, 3, 0, 2, 1, 0, 0, 1, 1, 0);
     }
 
+    /** Three codes, of which two are the same: v1 v1 v0, v1 v1 v0 and v0 v-1 v0. */
+    private static void eachLineIsReadByItsOwnCode() {
+        DotRuns x = Calls.loaded(STAIRS + "line ....#...;loss 1 1;");
+        has(x, "..##....", "..##....", "...##...", "...#....");
+        sentLine(x, 3, 3, 1, 13, 2, 0);
+        sent(x, 63, 4, 0, 1, 1, 0, 2, 6, 1, 0);
+    }
+
+    /** "fewer bits than that by the line above": a line that costs as many is no mark to step back to. */
+    private static void notAloneIfAsDear() {
+        DotRuns x = Calls.loaded("wide 8;set 1 1;set 3 1;alone 8;line ..##....;loss 1 1;");
+        sent(x, 16 + 20 + 16 + 16 + 20, 4, 1, 2);
+        sentLine(x, 0, 0, 2, 32, 0, 0);
+    }
+
     /** "what comes of sending the page (nothing changes)". */
     private static void sendingChangesNothing() {
         DotRuns x = Calls.loaded(STAIRS + "loss 1 2;loss 2 1;loss 9 4;set 3 1;");
@@ -274,6 +291,9 @@ final class SendEdgeTest {
         harm(x, 0, 1, 2, 0);
         DotRuns white = Calls.loaded("wide 8;alone 8;");
         harm(white, 0, 0, 0, -1);
+        DotRuns one = Calls.loaded("wide 8;set 2 1;alone 8;line .......#;");
+        harm(one, 0, 0, 0, -1);
+        harm(one, 1, 1, 1, 1);
     }
 
     /** "of several the lowest one". */
