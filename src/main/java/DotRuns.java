@@ -51,7 +51,6 @@ public final class DotRuns {
     private static final int LOST = 1;
     private static final int NOT_READ = 2;
     private static final int READ_WRONG = 3;
-    private static final int STATES = 4;
 
     private static final int NO_SUCH_MODE = -9;
 
