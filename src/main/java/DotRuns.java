@@ -1465,7 +1465,7 @@ public final class DotRuns {
             }
             int what = text.number();
             text.next();
-            if (what >= SETTINGS || !needNumber(LEAST_SETTINGS[what], MOST_SETTINGS[what])) {
+            if (what < 0 || what >= SETTINGS || !needNumber(LEAST_SETTINGS[what], MOST_SETTINGS[what])) {
                 return false;
             }
             page.settings[what] = text.number();
@@ -1480,7 +1480,7 @@ public final class DotRuns {
             }
             int line = text.number();
             text.next();
-            if (line >= MOST_LINES || !needNumber(0, MOST_TIMES)) {
+            if (line < 0 || line >= MOST_LINES || !needNumber(0, MOST_TIMES)) {
                 return false;
             }
             page.losses[line] = text.number();

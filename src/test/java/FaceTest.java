@@ -79,6 +79,8 @@ final class FaceTest {
         }
         Check.due("public and final", DotRuns.class.getModifiers() & (Modifier.PUBLIC | Modifier.FINAL),
             Modifier.PUBLIC | Modifier.FINAL);
+        Field none = DotRuns.class.getDeclaredField("NONE");
+        Check.due("NONE", none.toString() + " = " + none.getInt(null), "public static final int DotRuns.NONE = -1");
         int constructors = 0;
         for (Constructor<?> c : DotRuns.class.getDeclaredConstructors()) {
             constructors++;

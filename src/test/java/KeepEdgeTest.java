@@ -17,6 +17,7 @@ final class KeepEdgeTest {
         restoreOnlyWhatWasSaved();
         savedStatesStay();
         saveAndRestoreLeaveTheRest();
+        allOf512Calls();
         Check.end("KeepEdgeTest");
     }
 
@@ -89,6 +90,10 @@ final class KeepEdgeTest {
         DotRuns w = Calls.loaded("wide 40;alone 0 40;alone 0 40;loss 1 1;");
         shown(w, 0, Told.times(40, "#"));
         shown(w, 1, Told.times(40, "#") + "1");
+        DotRuns late = Calls.loaded("wide 8;line ..##....;loss 0 5;set 3 9;");
+        shown(late, 0, "..##....");
+        late.set(3, 4);
+        shown(late, 0, "........1");
     }
 
     /** "NONE if there is no such byte, or nothing was written". */
@@ -309,5 +314,16 @@ final class KeepEdgeTest {
         Check.due("output", Calls.output(x), "alone 0 2 6");
         Check.due("text", x.truncateText(8), 8);
         Check.due("text", x.load(), 1);
+    }
+
+    /** "An object is used for at most 512 calls": the last of them answer as the first ones. */
+    private static void allOf512Calls() {
+        DotRuns x = new DotRuns();
+        for (int call = 1; call <= 509; call++) {
+            Check.due("call " + call, x.set(4, call % 100), call == 1 ? 8 : (call - 1) % 100);
+        }
+        Check.due("call 510", x.addLine(3, 6), 0);
+        Check.due("call 511", x.sent(0), 9 + 16);
+        Check.due("call 512", x.undo(), 9);
     }
 }

@@ -31,6 +31,7 @@ final class TextEdgeTest {
         leastOfSeveralErrors();
         lines20And21();
         laterLossesReplaceEarlierOnes();
+        lossesAndSettingsInAnyOrder();
         lineAboveIsTheOneToldLast();
         Check.end("TextEdgeTest");
     }
@@ -427,6 +428,20 @@ final class TextEdgeTest {
         Check.due("HEAD", x.count(4), 2);
         x.undo();
         Check.due("one LOSS comes back", x.count(11), 3);
+    }
+
+    /** LOSS and the settings may be told ahead of the lines, between them and behind them. */
+    private static void lossesAndSettingsInAnyOrder() {
+        for (String line : new String[] {WHITE, "alone 16;", "above v0;"}) {
+            DotRuns x = good("loss 0 3;set 4 7;loss 1 2;" + line + "set 5 6;loss 2 1;" + line + line + "set 0 8;loss 3 4;");
+            int[] losses = {3, 2, 1, 4, 0};
+            Check.due("HEAD", x.count(4), 7);
+            Check.due("ASK", x.count(5), 6);
+            Check.due("EVERY", x.count(0), 8);
+            for (int number = 0; number < losses.length; number++) {
+                Check.due("LOSS " + number, x.lose(number, 0), losses[number]);
+            }
+        }
     }
 
     /** "the line above being the one that was told last (a white one ahead of the first)". */
